@@ -19,6 +19,8 @@ public final class DraftTest {
         lettersOfEachField();
         lettersRefused();
         original();
+        originalOverAll();
+        fieldsAtTheirMost();
         omit();
         sizeAndAt();
         number();
@@ -181,6 +183,57 @@ public final class DraftTest {
         Due.due("original refused changes nothing", Due.draft(x), "800/1 90=" + small);
     }
 
+    private static void originalOverAll() {
+        CardMessages x = Due.taped("0800 80 00 00 00 00 00 00 00 00 00 00 42 00 00 00 00" + "99".repeat(27));
+        Due.due("read() of nines", x.read(), true);
+        x.original(1, 2, 3);
+        Due.due("original over nines", Due.draft(x), "800/2 90=0001" + "000002" + "0000000000"
+                + "00000000003" + "00000000000" + " 95=999999999999");
+    }
+
+    /** No field may reach into another, in whatever order they are put. */
+    private static void fieldsAtTheirMost() {
+        for (int turn = 0; turn < Due.FIELDS.length; turn++) {
+            CardMessages x = new CardMessages();
+            StringBuilder want = new StringBuilder("800/16");
+            for (int i = 0; i < Due.FIELDS.length; i++) {
+                putMost(x, Due.FIELDS[(turn + i) % Due.FIELDS.length]);
+                want.append(' ').append(Due.FIELDS[i]).append('=').append(mostOf(Due.FIELDS[i]));
+            }
+            Due.due("all fields at their most, turn " + turn, Due.draft(x), want.toString());
+        }
+    }
+
+    private static void putMost(CardMessages x, int field) {
+        if (isLetterField(field)) {
+            x.letters(field, -1, field == 54 ? 40 : 0);
+        } else {
+            x.digits(field, Long.parseLong(mostOf(field)));
+        }
+    }
+
+    private static String mostOf(int field) {
+        if (isLetterField(field)) {
+            return "V".repeat(LETTER_MOST[indexOf(LETTER_FIELDS, field)]);
+        }
+        int most = DIGIT_MOST[indexOf(DIGIT_FIELDS, field)];
+        String v = Long.toString(most >= 19 ? Long.MAX_VALUE : power(most) - 1);
+        return "0".repeat(most - v.length()) + v;
+    }
+
+    private static boolean isLetterField(int field) {
+        return indexOf(LETTER_FIELDS, field) >= 0;
+    }
+
+    private static int indexOf(int[] row, int value) {
+        for (int i = 0; i < row.length; i++) {
+            if (row[i] == value) {
+                return i;
+            }
+        }
+        return -1;
+    }
+
     private static void omit() {
         for (int field : Due.FIELDS) {
             CardMessages x = full();
@@ -280,16 +333,16 @@ public final class DraftTest {
     }
 
     private static void unknownFields() {
-        CardMessages x = full();
-        String before = Due.draft(x);
         for (int field : UNKNOWN) {
+            CardMessages x = full();
+            String before = Due.draft(x);
             Due.refused("digits(" + field + ", 1)", () -> x.digits(field, 1));
             Due.refused("letters(" + field + ", 1, 0)", () -> x.letters(field, 1, 0));
             Due.refused("omit(" + field + ")", () -> x.omit(field) ? 1L : 0L);
             Due.refused("size(" + field + ")", () -> x.size(field));
             Due.refused("at(" + field + ", 0)", () -> x.at(field, 0));
             Due.refused("number(" + field + ")", () -> x.number(field));
+            Due.due("an unknown field changes nothing", Due.draft(x), before);
         }
-        Due.due("unknown fields change nothing", Due.draft(x), before);
     }
 }

@@ -122,6 +122,7 @@ public final class FaultTest {
         found("0800 88 00 00 00 00 00 00 00", 1, 10);
         found("0800 80 00 00 00 00 00 00 00 00 00 00 00 00 00 00", 1, 17);
         found("0800 80 00 00 00 00 00 00 00" + NO_FIELDS, 4, 10);
+        found("0800 80 00 00 00 00 00 00 00" + NO_FIELDS + "FF FF", 4, 10);
         found("0800 80 00 00 00 00 00 00 01" + NO_FIELDS, 4, 9);
         found("0800 80 00 00 00 00 00 00 00 80 00 00 00 00 00 00 00", 4, 10);
         found("0800 80 00 00 00 00 00 00 00 00 00 00 00 01 00 00 80", 4, 14);
@@ -206,7 +207,10 @@ public final class FaultTest {
         found("0800" + NO_FIELDS + "00", 7, 10);
         found("0800" + NO_FIELDS + "00 00 00", 7, 10);
         found("0800 40 00 00 00 00 00 00 00 01 05 FF", 7, 12);
-        found("0800" + NO_FIELDS + "00".repeat(390), 7, 10);
+        CardMessages longest = Due.taped("0800" + NO_FIELDS + "00".repeat(390));
+        Due.due("fault(0) of the longest tape", longest.fault(0), 7);
+        Due.due("fault(1) of the longest tape", longest.fault(1), 10);
+        Due.due("read() of the longest tape", longest.read(), false);
     }
 
     private static void wrongWhat() {
@@ -217,20 +221,28 @@ public final class FaultTest {
     }
 
     private static void readTakesAll() {
-        CardMessages x = Due.taped("0430 F0 20 00 01 0E 80 84 00 04 40 04 42 00 00 00 00"
+        String tape = ("0430 F0 20 00 01 0E 80 84 00 04 40 04 42 00 00 00 00"
                 + "03 00 12" + "000003" + "123456789012" + "987654" + "11 01 23 45 67 89 01"
                 + "5A5958575655545352515049" + "414243444546" + "3039" + "5A5A5A5A30313233" + "0978"
                 + "0003 58595A" + "0301" + "1234567890" + "1234567890123456"
-                + "123456789012345678901234567890123456789012" + "210987654321");
+                + "123456789012345678901234567890123456789012" + "210987654321").replace(" ", "");
         String want = "430/16 2=012 3=000003 4=123456789012 11=987654 32=12345678901"
                 + " 37=ZYXWVUTSRQPI 38=ABCDEF 39=09 41=ZZZZ0123 49=978 54=XYZ 70=301 74=1234567890"
                 + " 86=1234567890123456 90=123456789012345678901234567890123456789012 95=210987654321";
-        String tape = Due.hex(x);
+        CardMessages x = Due.taped(tape);
         x.digits(2, 7777777);
         Due.due("read() of all", x.read(), true);
         Due.due("the draft", Due.draft(x), want);
         Due.due("a number with a 0 in front", x.number(2), 12);
         Due.due("number(90)", x.number(90), 567890123456789012L);
+        composedAgain(tape);
+        cardOfNineteen();
+        readIsACopy();
+    }
+
+    private static void composedAgain(String tape) {
+        CardMessages x = Due.taped(tape);
+        x.read();
         x.trim(x.trim(0));
         x.compose();
         Due.due("composed again", Due.hex(x), tape);
@@ -238,8 +250,6 @@ public final class FaultTest {
         Due.due("the tape's bytes are not the draft's", Due.marks(x, 54), "XYZ");
         Due.due("read() of none", x.read(), true);
         Due.due("the draft", Due.draft(x), "100/0");
-        cardOfNineteen();
-        readIsACopy();
     }
 
     private static void cardOfNineteen() {

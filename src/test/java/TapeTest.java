@@ -4,6 +4,7 @@ public final class TapeTest {
     }
 
     public static void main(String[] args) {
+        composeOfEachType();
         composeOfEachField();
         composeOfFirstMap();
         composeOfBothMaps();
@@ -12,6 +13,15 @@ public final class TapeTest {
         trim();
         spoil();
         Due.end("TapeTest");
+    }
+
+    private static void composeOfEachType() {
+        for (int type = 0; type <= 9999; type++) {
+            CardMessages x = new CardMessages();
+            x.message(type);
+            x.compose();
+            Due.due("compose() of type " + type, Due.hex(x), String.format("%04d", type) + "0".repeat(16));
+        }
     }
 
     private static void composeOfEachField() {
