@@ -1,13 +1,5 @@
 /** Promises 1 to 11: a new object, and the draft. */
 public final class DraftTest {
-    private static final int[] DIGIT_FIELDS = {2, 3, 4, 11, 32, 49, 70, 74, 86, 90, 95};
-    private static final int[] DIGIT_MOST = {19, 6, 12, 6, 11, 3, 3, 10, 16, 42, 12};
-    private static final int[] LETTER_FIELDS = {37, 38, 39, 41, 54};
-    private static final int[] LETTER_MOST = {12, 6, 2, 8, 40};
-    private static final int[] UNKNOWN = {
-        Integer.MIN_VALUE, -95, -2, -1, 0, 1, 5, 10, 12, 31, 33, 36, 40, 42, 48, 50, 53, 55, 63, 64,
-        65, 69, 71, 73, 75, 85, 87, 89, 91, 94, 96, 127, 128, 129, 258, Integer.MAX_VALUE};
-
     private DraftTest() {
     }
 
@@ -61,14 +53,12 @@ public final class DraftTest {
     }
 
     private static void digitsOfEachField() {
-        for (int i = 0; i < DIGIT_FIELDS.length; i++) {
-            int field = DIGIT_FIELDS[i];
-            boolean counted = field == 2 || field == 32;
-            for (long v : valuesUpTo(DIGIT_MOST[i])) {
+        for (int field : Fields.OF_DIGITS) {
+            int most = Fields.most(field);
+            for (long v : valuesUpTo(most)) {
                 CardMessages x = new CardMessages();
                 x.digits(field, v);
-                String plain = Long.toString(v);
-                String want = counted ? plain : "0".repeat(DIGIT_MOST[i] - plain.length()) + plain;
+                String want = Fields.isCounted(field) ? Long.toString(v) : Fields.padded(v, most);
                 Due.due("digits(" + field + ", " + v + ")", Due.draft(x), "800/1 " + field + "=" + want);
             }
         }
@@ -79,32 +69,23 @@ public final class DraftTest {
     }
 
     private static long[] valuesUpTo(int digits) {
-        long most = digits >= 19 ? Long.MAX_VALUE : power(digits) - 1;
+        long most = digits >= 19 ? Long.MAX_VALUE : Fields.power(digits) - 1;
         return new long[] {0, 1, 9, 10, 99, 100, 123, most / 10, most / 10 + 1, most - 1, most};
-    }
-
-    private static long power(int digits) {
-        long power = 1;
-        for (int i = 0; i < digits; i++) {
-            power *= 10;
-        }
-        return power;
     }
 
     private static void digitsRefused() {
         CardMessages x = new CardMessages();
         x.digits(2, 77);
-        for (int i = 0; i < DIGIT_FIELDS.length; i++) {
-            int field = DIGIT_FIELDS[i];
+        for (int field : Fields.OF_DIGITS) {
             Due.refused("digits(" + field + ", -1)", () -> x.digits(field, -1));
             Due.refused("digits(" + field + ", least)", () -> x.digits(field, Long.MIN_VALUE));
-            if (DIGIT_MOST[i] < 19) {
-                long over = power(DIGIT_MOST[i]);
+            if (Fields.most(field) < 19) {
+                long over = Fields.power(Fields.most(field));
                 Due.refused("digits(" + field + ", " + over + ")", () -> x.digits(field, over));
                 Due.refused("digits(" + field + ", most)", () -> x.digits(field, Long.MAX_VALUE));
             }
         }
-        for (int field : LETTER_FIELDS) {
+        for (int field : Fields.OF_LETTERS) {
             Due.refused("digits(" + field + ", 1)", () -> x.digits(field, 1));
         }
         Due.due("digits refused changes nothing", Due.draft(x), "800/1 2=77");
@@ -130,13 +111,12 @@ public final class DraftTest {
 
     private static void lettersOf(long v, String twelve) {
         String many = twelve.repeat(4);
-        for (int i = 0; i < LETTER_FIELDS.length; i++) {
-            int field = LETTER_FIELDS[i];
+        for (int field : Fields.OF_LETTERS) {
             int[] counts = field == 54 ? new int[] {1, 2, 11, 12, 13, 24, 25, 39, 40} : new int[] {0};
             for (int n : counts) {
                 CardMessages x = new CardMessages();
                 x.letters(field, v, n);
-                String want = many.substring(0, field == 54 ? n : LETTER_MOST[i]);
+                String want = many.substring(0, field == 54 ? n : Fields.most(field));
                 Due.due("letters(" + field + ", " + v + ", " + n + ")",
                         Due.draft(x), "800/1 " + field + "=" + want);
             }
@@ -146,16 +126,15 @@ public final class DraftTest {
     private static void lettersRefused() {
         CardMessages x = new CardMessages();
         x.letters(54, 1, 2);
-        for (int i = 0; i < LETTER_FIELDS.length - 1; i++) {
-            int field = LETTER_FIELDS[i];
-            for (int n : new int[] {-1, 1, LETTER_MOST[i], Integer.MIN_VALUE, Integer.MAX_VALUE}) {
+        for (int field : new int[] {37, 38, 39, 41}) {
+            for (int n : new int[] {-1, 1, Fields.most(field), Integer.MIN_VALUE, Integer.MAX_VALUE}) {
                 Due.refused("letters(" + field + ", 1, " + n + ")", () -> x.letters(field, 1, n));
             }
         }
         for (int n : new int[] {-1, 0, 41, Integer.MIN_VALUE, Integer.MAX_VALUE}) {
             Due.refused("letters(54, 1, " + n + ")", () -> x.letters(54, 1, n));
         }
-        for (int field : DIGIT_FIELDS) {
+        for (int field : Fields.OF_DIGITS) {
             Due.refused("letters(" + field + ", 1, 0)", () -> x.letters(field, 1, 0));
             Due.refused("letters(" + field + ", 1, 1)", () -> x.letters(field, 1, 1));
         }
@@ -205,7 +184,7 @@ public final class DraftTest {
     }
 
     private static void putMost(CardMessages x, int field) {
-        if (isLetterField(field)) {
+        if (Fields.hasLetters(field)) {
             x.letters(field, -1, field == 54 ? 40 : 0);
         } else {
             x.digits(field, Long.parseLong(mostOf(field)));
@@ -213,25 +192,11 @@ public final class DraftTest {
     }
 
     private static String mostOf(int field) {
-        if (isLetterField(field)) {
-            return "V".repeat(LETTER_MOST[indexOf(LETTER_FIELDS, field)]);
+        if (Fields.hasLetters(field)) {
+            return "V".repeat(Fields.most(field));
         }
-        int most = DIGIT_MOST[indexOf(DIGIT_FIELDS, field)];
-        String v = Long.toString(most >= 19 ? Long.MAX_VALUE : power(most) - 1);
-        return "0".repeat(most - v.length()) + v;
-    }
-
-    private static boolean isLetterField(int field) {
-        return indexOf(LETTER_FIELDS, field) >= 0;
-    }
-
-    private static int indexOf(int[] row, int value) {
-        for (int i = 0; i < row.length; i++) {
-            if (row[i] == value) {
-                return i;
-            }
-        }
-        return -1;
+        int most = Fields.most(field);
+        return Fields.padded(most >= 19 ? Long.MAX_VALUE : Fields.power(most) - 1, most);
     }
 
     private static void omit() {
@@ -252,10 +217,10 @@ public final class DraftTest {
     private static CardMessages full() {
         CardMessages x = new CardMessages();
         x.message(230);
-        for (int field : DIGIT_FIELDS) {
+        for (int field : Fields.OF_DIGITS) {
             x.digits(field, 100 + field);
         }
-        for (int field : LETTER_FIELDS) {
+        for (int field : Fields.OF_LETTERS) {
             x.letters(field, field, field == 54 ? 7 : 0);
         }
         return x;
@@ -289,12 +254,12 @@ public final class DraftTest {
 
     private static void number() {
         CardMessages x = full();
-        for (int field : DIGIT_FIELDS) {
+        for (int field : Fields.OF_DIGITS) {
             Due.due("number(" + field + ")", x.number(field), 100 + field);
             x.omit(field);
             Due.due("number(" + field + ") without it", x.number(field), CardMessages.NONE);
         }
-        for (int field : LETTER_FIELDS) {
+        for (int field : Fields.OF_LETTERS) {
             Due.refused("number(" + field + ")", () -> x.number(field));
             x.omit(field);
             Due.refused("number(" + field + ") without it", () -> x.number(field));
@@ -316,7 +281,7 @@ public final class DraftTest {
     private static void fields() {
         CardMessages x = new CardMessages();
         int count = 0;
-        for (int field : DIGIT_FIELDS) {
+        for (int field : Fields.OF_DIGITS) {
             x.digits(field, 0);
             x.digits(field, 1);
             count++;
@@ -324,7 +289,7 @@ public final class DraftTest {
         }
         x.original(1, 2, 3);
         Due.due("fields() with 90 put anew", x.fields(), count);
-        for (int field : LETTER_FIELDS) {
+        for (int field : Fields.OF_LETTERS) {
             x.letters(field, 0, field == 54 ? 1 : 0);
             count++;
             Due.due("fields() with " + field, x.fields(), count);
@@ -333,7 +298,7 @@ public final class DraftTest {
     }
 
     private static void unknownFields() {
-        for (int field : UNKNOWN) {
+        for (int field : Fields.unknown()) {
             CardMessages x = full();
             String before = Due.draft(x);
             Due.refused("digits(" + field + ", 1)", () -> x.digits(field, 1));
