@@ -178,7 +178,8 @@ public final class TapeEdgeTest {
         Due.due("feed of the least", x.feed(LEAST), 16);
         Due.due("feed of the most", x.feed(MOST), 20);
         Due.due("feed of FE", x.feed(0x80FE7F81), 24);
-        Due.due("the fed tape", Due.hex(x), "01020304" + "00000000" + "FFFFFFFF" + "80000000" + "7FFFFFFF" + "80FE7F81");
+        Due.due("the fed tape", Due.hex(x),
+                "01020304" + "00000000" + "FFFFFFFF" + "80000000" + "7FFFFFFF" + "80FE7F81");
     }
 
     private static CardMessages fed(int bytes) {
