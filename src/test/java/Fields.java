@@ -12,6 +12,28 @@ final class Fields {
         return most(field) != 0;
     }
 
+    static String name(int field) {
+        return switch (field) {
+            case 2 -> "CARD";
+            case 3 -> "MODE";
+            case 4 -> "AMOUNT";
+            case 11 -> "TRACE";
+            case 32 -> "ACQUIRER";
+            case 37 -> "REFERENCE";
+            case 38 -> "APPROVAL";
+            case 39 -> "RESPONSE";
+            case 41 -> "TERMINAL";
+            case 49 -> "CURRENCY";
+            case 54 -> "NOTE";
+            case 70 -> "NETWORK";
+            case 74 -> "COUNT";
+            case 86 -> "SUM";
+            case 90 -> "ORIGINAL";
+            case 95 -> "REPLACEMENT";
+            default -> "";
+        };
+    }
+
     static boolean hasLetters(int field) {
         return switch (field) {
             case 37, 38, 39, 41, 54 -> true;
