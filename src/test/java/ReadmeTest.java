@@ -107,7 +107,7 @@ public final class ReadmeTest {
     private static String asking(String code, String wanted) {
         String plain = code.substring(0, code.length() - 1);
         if (wanted.startsWith("throws ")) {
-            return "try { answers.add(String.valueOf(" + plain(plain) + ")); } catch (RuntimeException e)"
+            return "try { answers.add(String.valueOf(" + asRunnable(plain) + ")); } catch (RuntimeException e)"
                     + " { answers.add(\"throws \" + e.getClass().getSimpleName()); }\n";
         }
         int equals = plain.indexOf(" = ");
@@ -119,7 +119,7 @@ public final class ReadmeTest {
     }
 
     // A call without an answer can't stand where one is asked; Runnable takes both.
-    private static String plain(String call) {
+    private static String asRunnable(String call) {
         return "told(() -> " + call + ")";
     }
 
